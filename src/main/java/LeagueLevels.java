@@ -695,24 +695,25 @@ public final class LeagueLevels {
                 if (tape.kind == Tape.AT_END) {
                     return allFull() || tape.fail(5);
                 }
-                if (!readLine()) {
+                boolean stands;
+                if (tape.isWord(Tape.LEVEL)) {
+                    stands = readLevel(draft.levels);
+                } else if (tape.isWord(Tape.CLUB)) {
+                    stands = readClub(draft.clubs);
+                } else {
+                    stands = tape.fail(1);
+                }
+                if (!stands) {
                     return false;
                 }
             }
             return tape.fail(1);
         }
 
-        private boolean readLine() {
-            if (tape.isWord(Tape.LEVEL)) {
-                return draft.levels < MOST_LEVELS ? readLevel(draft.levels) : tape.fail(4);
-            }
-            if (tape.isWord(Tape.CLUB)) {
-                return draft.clubs < MOST_CLUBS ? readClub(draft.clubs) : tape.fail(4);
-            }
-            return tape.fail(1);
-        }
-
         private boolean readLevel(int level) {
+            if (level >= MOST_LEVELS) {
+                return tape.fail(4);
+            }
             int divisions = tape.takeNumber(1, MOST_DIVISIONS);
             if (divisions < 1 || !tape.takeWord(Tape.OF)) {
                 return false;
@@ -738,6 +739,9 @@ public final class LeagueLevels {
         }
 
         private boolean readClub(int club) {
+            if (club >= MOST_CLUBS) {
+                return tape.fail(4);
+            }
             if (!tape.takeName()) {
                 return false;
             }
@@ -1376,6 +1380,9 @@ public final class LeagueLevels {
 
     /** Parts a level into divisions with the fewest miles; what was found is kept while its clubs stay. */
     private static final class Parting {
+        // Of twelve clubs there are the most sets of six.
+        private static final int MOST_SETS = 924;
+
         private final Pyramid pyramid;
         private final Travel travel;
         private final int[] known;
@@ -1383,11 +1390,17 @@ public final class LeagueLevels {
         final int[] anew;
         private int count;
         private int size;
+        private int divisions;
         private final int[] row;
-        private final int[] choice;
-        private final int[] bestChoice;
-        private int best;
-        private int taken;
+        private final int[] picked;
+        // All sets of as many clubs of the row as a division has, as bits, in the order of their clubs.
+        private int setCount;
+        private final int[] sets;
+        private final int[] setMiles;
+        private final int[] firstWith;
+        private final int[] chosen;
+        private final int[] best;
+        private int bestMiles;
 
         Parting(Pyramid pyramid, Travel travel) {
             this.pyramid = pyramid;
@@ -1396,8 +1409,12 @@ public final class LeagueLevels {
             fewest = new int[MOST_LEVELS];
             anew = new int[MOST_CLUBS];
             row = new int[MOST_OF_LEVEL];
-            choice = new int[MOST_OF_LEVEL];
-            bestChoice = new int[MOST_OF_LEVEL];
+            picked = new int[MOST_OF_LEVEL];
+            sets = new int[MOST_SETS];
+            setMiles = new int[1 << MOST_OF_LEVEL];
+            firstWith = new int[MOST_OF_LEVEL + 1];
+            chosen = new int[MOST_DIVISIONS];
+            best = new int[MOST_DIVISIONS];
         }
 
         void forgetAll() {
@@ -1435,54 +1452,80 @@ public final class LeagueLevels {
             }
             count = pyramid.gather(level, row);
             size = pyramid.size[level];
-            best = Integer.MAX_VALUE;
-            taken = 0;
-            place(0, 0, 0);
-            int slot = 0;
-            for (int division = 0; division < pyramid.divisions[level]; division++) {
-                for (int i = 0; i < size && slot < count; i++) {
-                    anew[row[bestChoice[slot]]] = division;
-                    slot++;
-                }
+            divisions = pyramid.divisions[level];
+            setCount = 0;
+            listSets(0, 0, 0, 0);
+            bestMiles = Integer.MAX_VALUE;
+            choose(0, (1 << count) - 1, 0);
+            for (int i = 0; i < count; i++) {
+                anew[row[i]] = bestDivisionOf(i);
             }
-            fewest[level] = best;
+            fewest[level] = bestMiles;
             known[level] = 1;
         }
 
-        /**
-         * Fills the slots, one division's behind the other's, with clubs rising inside each: so the first
-         * way of like miles is met first. No more slots than clubs of a level are ever open.
-         */
-        private void place(int slot, int inside, int cost) {
-            if (cost >= best) {
+        private int bestDivisionOf(int i) {
+            for (int division = 0; division < divisions; division++) {
+                if ((best[division] >> i & 1) != 0) {
+                    return division;
+                }
+            }
+            return 0;
+        }
+
+        /** Lists the sets that go on from those picked: a set has no more clubs than a division. */
+        private void listSets(int slot, int from, int set, int miles) {
+            if (slot >= size) {
+                if (setCount < MOST_SETS) {
+                    sets[setCount] = set;
+                    setCount++;
+                    setMiles[set] = miles;
+                }
                 return;
             }
-            if (slot >= count) {
-                best = cost;
-                System.arraycopy(choice, 0, bestChoice, 0, count);
-                return;
-            }
-            int from = inside > 0 && slot > 0 ? choice[slot - 1] + 1 : 0;
-            for (int i = from; i < count; i++) {
-                if ((taken >> i & 1) == 0) {
-                    choice[slot] = i;
-                    taken |= 1 << i;
-                    place(slot + 1, inside + 1 < size ? inside + 1 : 0, cost + milesAdded(slot, inside));
-                    taken &= ~(1 << i);
-                    if (inside == 0) {
-                        // A division begins with the least club left.
-                        return;
-                    }
+            // So many clubs must be left behind that the set can still be filled.
+            for (int i = from; i <= count - size + slot; i++) {
+                if (slot == 0) {
+                    firstWith[i] = setCount;
+                }
+                picked[slot] = row[i];
+                listSets(slot + 1, i + 1, set | 1 << i, miles + milesTo(slot));
+                if (slot == 0) {
+                    firstWith[i + 1] = setCount;
                 }
             }
         }
 
-        private int milesAdded(int slot, int inside) {
+        /** Miles of the club picked last to those picked ahead of it. */
+        private int milesTo(int slot) {
             int sum = 0;
-            for (int i = Math.max(slot - inside, 0); i < slot; i++) {
-                sum += travel.between(row[choice[i]], row[choice[slot]]);
+            for (int i = 0; i < slot; i++) {
+                sum += travel.between(picked[i], picked[slot]);
             }
             return sum;
+        }
+
+        /** Chooses sets for the divisions from this one on; only a better way takes a former one's place. */
+        private void choose(int division, int left, int miles) {
+            if (division >= divisions - 1) {
+                if (miles + setMiles[left] < bestMiles) {
+                    chosen[division] = left;
+                    System.arraycopy(chosen, 0, best, 0, divisions);
+                    bestMiles = miles + setMiles[left];
+                }
+                return;
+            }
+            int least = Integer.bitCount((left & -left) - 1);
+            if (least >= count) {
+                return;
+            }
+            for (int k = firstWith[least]; k < firstWith[least + 1] && k < setCount; k++) {
+                int set = sets[k];
+                if ((set & ~left) == 0 && miles + setMiles[set] < bestMiles) {
+                    chosen[division] = set;
+                    choose(division + 1, left & ~set, miles + setMiles[set]);
+                }
+            }
         }
     }
 

@@ -1397,6 +1397,7 @@ public final class LeagueLevels {
         private int setCount;
         private final int[] sets;
         private final int[] setMiles;
+        // Where the sets begin whose least club is the i-th of the row.
         private final int[] firstWith;
         private final int[] chosen;
         private final int[] best;
@@ -1485,9 +1486,6 @@ public final class LeagueLevels {
             }
             // So many clubs must be left behind that the set can still be filled.
             for (int i = from; i <= count - size + slot; i++) {
-                if (slot == 0) {
-                    firstWith[i] = setCount;
-                }
                 picked[slot] = row[i];
                 listSets(slot + 1, i + 1, set | 1 << i, miles + milesTo(slot));
                 if (slot == 0) {

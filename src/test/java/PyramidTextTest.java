@@ -8,6 +8,8 @@ public final class PyramidTextTest {
         cannotBe();
         tooMany();
         notFull();
+        cutOff();
+        fewerThanBefore();
         firstOfSeveral();
         whatStays();
         Check.finish();
@@ -155,6 +157,46 @@ public final class PyramidTextTest {
                 + "club c 1 2 grade 3 in 0 1;", 5, 27 + 3 * 26);
         // Of one place the least number: the line has no end, the division is not full.
         faulty(TWO + "club a 1 2 grade 3 in 0 0", 1, 27 + 25);
+    }
+
+    /** What stood behind the tape's end, or was told formerly, has no part in it. */
+    private static void cutOff() {
+        LeagueLevels x = new LeagueLevels();
+        Check.tell(x, "level 12");
+        x.end(7);
+        Check.due("a number cut off", x.pyramid(), -1);
+        Check.due("its text ends", x.fault(0), 1);
+        Check.due("at its end", x.fault(1), 7);
+        Check.tell(x, "clubs");
+        x.end(4);
+        Check.due("a word cut off", x.pyramid(), -1);
+        Check.due("its text ends", x.fault(0), 1);
+        Check.due("at its end", x.fault(1), 4);
+        Check.tell(x, " x");
+        x.end(1);
+        Check.due("a blank is left", x.pyramid(), 0);
+    }
+
+    private static void fewerThanBefore() {
+        LeagueLevels x = Check.with("level1of2down0need0;level2of3down0need0;club a0 0grade9in1 0;"
+                + "club b0 0grade9in1 0;club c0 0grade9in1 0;club d0 0grade9in1 1;club e0 0grade9in1 1;"
+                + "club f0 0grade9in1 1;club g0 0grade9in0 0;club h0 0grade9in0 0;club i0 0grade9;club j0 0grade9;");
+        Check.tell(x, "level1of2down1need0;level1of2down0need0;club p0 0grade9in1 0;club q0 0grade9in0 0;"
+                + "club r0 0grade9in0 0;club s0 0grade9in1 0;");
+        Check.due("four clubs", x.pyramid(), 4);
+        Check.due("none waits", x.look(2), 0);
+        Check.due("two may go up", x.level(1, 5), 2);
+        Check.due("order", x.order(1, 1), 3);
+        Check.due("no more", x.order(1, 2), -1);
+        Check.due("miles", x.level(1, 6), 0);
+        Check.due("none comes", x.moves(1, 3, -1), 0);
+        x.resign(0);
+        Check.due("too few wait", x.close(), -1);
+        x.undo();
+        Check.due("one up, one down", x.close(), 1);
+        Check.due("none of a former club's name", x.show(0, 0), 12);
+        Check.tell(x, "a");
+        Check.due("nor number", x.named(), -1);
     }
 
     private static void firstOfSeveral() {

@@ -15,6 +15,8 @@ public final class TableTest {
         above();
         versus();
         shown();
+        shownWhole();
+        mostMatches();
         looks();
         Check.finish();
     }
@@ -236,6 +238,79 @@ public final class TableTest {
             y.deduct(6, 99);
         }
         Check.due("a long name", Check.shown(y, 0, 0), "b 3 1;c 0 0;d 0 0;e 0 0;f 0 0;longest -990 1;");
+    }
+
+    /** The longest table there is, and the numbers at which another digit comes. */
+    private static void shownWhole() {
+        StringBuilder b = new StringBuilder("level 1 of 6 down 0 need 0;");
+        StringBuilder due = new StringBuilder();
+        for (char c = 'a'; c < 'g'; c++) {
+            b.append("club longer").append(c).append(" 0 0 grade 0 in 0 0;");
+            due.append("longer").append(c).append(" -100 10;");
+        }
+        LeagueLevels x = Check.with(b.toString());
+        int matches = allMatches(x, "longer", 'a', 6);
+        Check.due("each with each other twice", x.look(5), matches);
+        for (int c = 0; c < 6; c++) {
+            x.deduct(c, 99);
+            x.deduct(c, 11);
+        }
+        Check.due("96 bytes", x.show(0, 0), 96);
+        Check.due("all of them", Check.shown(x, 0, 0), due.toString());
+        int[] deducted = {1, 9, 89, 0, 0, 0};
+        for (int c = 0; c < 6; c++) {
+            x.deduct(c, deducted[c]);
+        }
+        x.undo();
+        Check.due("-109 is last", Check.shown(x, 0, 0).substring(80), "longerb -109 10;");
+        LeagueLevels y = Check.with("level 1 of 2 down 0 need 0;club a 0 0 grade 0 in 0 0;club b 0 0 grade 0 in 0 0;");
+        int at = 0;
+        for (int n : new int[] {1, 9, 10, 11, 99, 100, 101, 110, 199, 200}) {
+            while (at < n) {
+                int more = Math.min(99, n - at);
+                y.deduct(0, more);
+                at += more;
+            }
+            Check.due("less " + n, Check.shown(y, 0, 0), "b 0 0;a -" + n + " 0;");
+        }
+    }
+
+    /** All matches of a division whose clubs are called by letters that follow each other, all drawn. */
+    private static int allMatches(LeagueLevels x, String name, char first, int size) {
+        int matches = 0;
+        for (int home = 0; home < size; home++) {
+            StringBuilder day = new StringBuilder();
+            for (int away = 0; away < size; away++) {
+                if (home != away) {
+                    day.append(name).append((char) (first + home)).append("0-0").append(name)
+                            .append((char) (first + away)).append(';');
+                    matches++;
+                }
+            }
+            Check.play(x, day.toString());
+        }
+        return matches;
+    }
+
+    private static void mostMatches() {
+        StringBuilder b = new StringBuilder("level2of6down0need0;level2of6down0need0;level1of6down0need0;");
+        for (int c = 0; c < 30; c++) {
+            b.append("club ").append(c < 24 ? "" : "a").append((char) ('a' + c % 24)).append("0 0grade0in");
+            b.append(c / 12).append(' ').append(c / 6 % 2).append(';');
+        }
+        LeagueLevels x = Check.with(b.toString());
+        int matches = 0;
+        for (int d = 0; d < 4; d++) {
+            matches += allMatches(x, "", (char) ('a' + 6 * d), 6);
+        }
+        matches += allMatches(x, "a", 'a', 6);
+        Check.due("all matches that can be", matches, 150);
+        Check.due("are told", x.look(5), 150);
+        for (int c = 0; c < 30; c++) {
+            Check.due("points of " + c, x.points(c), 10);
+            Check.due("matches of " + c, x.of(c, 0), 10);
+        }
+        Check.due("the last one", x.match(29, 28, 0), 0);
     }
 
     private static void looks() {
